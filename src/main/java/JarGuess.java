@@ -870,7 +870,9 @@ public final class JarGuess {
         }
 
         void cutTo(int n) {
-            size = n;
+            if (n >= 0 && n < size) {
+                size = n;
+            }
         }
 
         int sumOf(int many) {
@@ -886,7 +888,7 @@ public final class JarGuess {
         }
 
         int goalAt(int k, boolean hidden) {
-            return hidden ? NONE : meanOf(k);
+            return hidden || k <= 0 ? NONE : sumOf(k) / k;
         }
 
         int writtenBy(int g) {
@@ -1147,43 +1149,34 @@ public final class JarGuess {
                 begin++;
             }
             end = begin;
+            int first = byteAt(begin);
             if (begin >= length) {
                 token = END;
-            } else if (isLetter(begin)) {
-                nextWord();
-            } else if (isDigit(begin)) {
-                nextNumber();
-            } else {
-                token = byteAt(begin) == ';' ? SIGN : UNKNOWN;
-                end++;
-            }
-        }
-
-        private void nextWord() {
-            token = WORD;
-            while (end < length && isLetter(end)) {
-                end++;
-            }
-        }
-
-        private void nextNumber() {
-            value = 0;
-            while (end < length && isDigit(end)) {
-                // Only the first digits count: a longer run is refused and must not overflow.
-                if (end - begin < MOST_DIGITS) {
-                    value = value * 10 + byteAt(end) - '0';
+            } else if (isLetter(first)) {
+                token = WORD;
+                while (end < length && isLetter(byteAt(end))) {
+                    end++;
                 }
+            } else if (isDigit(first)) {
+                value = 0;
+                while (end < length && isDigit(byteAt(end))) {
+                    // Only the first digits count: a longer run is refused and must not overflow.
+                    value = end - begin < MOST_DIGITS ? value * 10 + byteAt(end) - '0' : value;
+                    end++;
+                }
+                token = end - begin > MOST_DIGITS ? UNKNOWN : NUMBER;
+            } else {
+                token = first == ';' ? SIGN : UNKNOWN;
                 end++;
             }
-            token = end - begin > MOST_DIGITS ? UNKNOWN : NUMBER;
         }
 
-        private boolean isLetter(int i) {
-            return byteAt(i) >= 'a' && byteAt(i) <= 'z';
+        private static boolean isLetter(int sign) {
+            return sign >= 'a' && sign <= 'z';
         }
 
-        private boolean isDigit(int i) {
-            return byteAt(i) >= '0' && byteAt(i) <= '9';
+        private static boolean isDigit(int sign) {
+            return sign >= '0' && sign <= '9';
         }
 
         private int byteAt(int i) {
@@ -1454,7 +1447,9 @@ public final class JarGuess {
                 // Others only take away from what v wins alone, so a lesser whole can't be better.
                 if (w.shares.wholeOf(v) > most) {
                     w.pick[i] = v;
-                    choose(w, i + 1, n);
+                    if (i + 1 < n) {
+                        choose(w, i + 1, n);
+                    }
                     long won = w.shareOf(i, n);
                     if (won > most) {
                         most = won;
