@@ -65,9 +65,14 @@ public final class ModelTest {
                 case 1: return to + 1;
                 case 2: return from;
                 case 3: return to;
-                case 4: return random.nextInt(12) == 0 ? random.nextInt() : in(from, to);
+                case 4: return random.nextInt(6) == 0 ? wild() : in(from, to);
                 default: return in(from, to);
             }
+        }
+
+        int wild() {
+            int[] ends = {Integer.MIN_VALUE, Integer.MAX_VALUE, random.nextInt()};
+            return ends[random.nextInt(ends.length)];
         }
 
         int m() {

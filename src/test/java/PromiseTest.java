@@ -172,6 +172,9 @@ public final class PromiseTest {
         badText(";", 2, 0);
         badText("5;", 2, 0);
         badText("jars 5;", 2, 0);
+        badText("har 5;", 2, 0);
+        badText("jat 5;", 2, 0);
+        badText("ja 5;", 2, 0);
         badText("copy 5;", 2, 0);
         badText("jar;", 2, 3);
         badText("jar x;", 2, 4);
@@ -378,6 +381,9 @@ public final class PromiseTest {
         row(x, 0, 2, 44, 99999);
         judged("41, and it can't be", x, 0, 1, 1, (39 * 4 + 44) / 40);
         judged("without guessers", rowed(new JarGuess(), 0), 0, 0, 1, -1);
+        x.strike(39);
+        x.numbers(0, 2, 40);
+        judged("40 good ones", x, 0, -1, 0, 0);
     }
 
     private static JarGuess rowed(JarGuess x, long... values) {
@@ -506,6 +512,15 @@ public final class PromiseTest {
         }
         due("none: mean(5)", x.mean(5), -2);
         due("alike ones", written("guesser 1 1;", 7, 3, 7, 3).mean(1), 3);
+        x = written("guesser 1 1;", 9);
+        for (int what = 0; what < 5; what++) {
+            due("one: mean(" + what + ")", x.mean(what), 9);
+        }
+        x.write(0, 4);
+        due("two: the middle", x.mean(1), 4);
+        due("two: the least", x.mean(3), 4);
+        due("two: the greatest", x.mean(4), 9);
+        due("the middle ahead", written("guesser 1 1;", 5, 9, 1).mean(1), 5);
     }
 
     private static void nearest() {
@@ -567,6 +582,8 @@ public final class PromiseTest {
         due("m 4 of four", x.out(4), 0);
         x = written("grid 1 20;prior 10 0;guesser 1 20 copy 10;", 0, 0, 0, 0);
         due("the most", x.out(4), 20L * 9 * 10 * 410 * 410 * 410);
+        due("200 numbers", told("grid 999 1198;").out(0), 200);
+        due("200 numbers, steep", told("grid 800 999;prior 999 8;").out(0), 208);
     }
 
     private static void likeliest() {
@@ -578,6 +595,8 @@ public final class PromiseTest {
         x.write(0, 9);
         due("none", x.likeliest(4), -1);
         due("the least", written("guesser 100 2;", 50).likeliest(1), 48);
+        due("the last", written("guesser 100 0;", 100).likeliest(1), 100);
+        due("the first", written("guesser 100 0;", 1).likeliest(1), 1);
     }
 
     private static void span() {
@@ -604,6 +623,11 @@ public final class PromiseTest {
         due("whole", x.expect(0, 0), (18 + 63) / 13);
         due("rest", x.expect(0, 1), (18 + 63) % 13);
         due("half", x.expect(0, 2), 7);
+        due("half by the first", told("grid 3 7;prior 3 8;").expect(0, 2), 3);
+        x = told("grid 7 7;");
+        due("one number", x.expect(0, 0), 7);
+        due("one number, rest", x.expect(0, 1), 0);
+        due("one number, half", x.expect(0, 2), 7);
         x = hall();
         x.write(0, 9);
         due("m 3", x.expect(3, 0), 5);
@@ -737,6 +761,9 @@ public final class PromiseTest {
         x = told("grid 1 2;");
         due("alike: don't", x.waits(0, 0), 0);
         due("alike", x.waits(0, 1), 1);
+        x = written("grid 1 3;prior 1 3;guesser 1 1;", 3);
+        due("as good as mine, better than hers", x.waits(0, 0), 0);
+        due("as good as mine", x.waits(0, 1), 9);
     }
 
     private static void waysOf() {
@@ -792,6 +819,7 @@ public final class PromiseTest {
         due("the fewest of like ones", told("price 0;prize 0;").buys(0), 0);
         due("one as good as two", told("price 0;prize 9;").buys(0), 1);
         due("one number", told("grid 7 7;price 0;").buys(0), 1);
+        due("for a coin", told("grid 7 7;price 0;prize 1;").buys(0), 1);
     }
 
     private static void game() {
@@ -850,6 +878,7 @@ public final class PromiseTest {
         due("20", x.fewest(0, 0, 20), 1);
         due("21", x.fewest(0, 0, 21), -1);
         due("no spread", x.fewest(1, 0, 100), 1);
+        due("d 20", x.fewest(0, 20, 100), 1);
         due("g", x.fewest(2, -1, 0), -2);
         due("d -1", x.fewest(0, -1, 0), -3);
         due("d 21", x.fewest(0, 21, 0), -3);
