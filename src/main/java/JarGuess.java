@@ -921,10 +921,10 @@ public final class JarGuess {
 
         int nearestTo(int t) {
             int found = NONE;
-            int near = Integer.MAX_VALUE;
+            int near = 0;
             for (int k = 0; k < size; k++) {
                 int far = Math.abs(number[k] - t);
-                if (far < near) {
+                if (found == NONE || far < near) {
                     near = far;
                     found = k;
                 }
