@@ -1,19 +1,7 @@
 import java.util.Arrays;
 
 /** Promise by promise: calls with the answers that the document asks for, reckoned by hand or by a second program. */
-public final class PromiseTest {
-    private static final String HALL =
-            "grid 1 9;prior 5 2;guesser 100 1 copy 4;guesser 120 2;price 3;prize 20;jar 6;";
-    private static int wrong = 0;
-    private static int promise = 0;
-
-    private static void due(String call, long got, long want) {
-        if (got != want) {
-            wrong++;
-            System.out.println("promise " + promise + ": " + call + " answered " + got + ", due is " + want);
-        }
-    }
-
+public final class PromiseTest extends Bench {
     public static void main(String[] args) {
         Runnable[] promises = {PromiseTest::newObject, PromiseTest::feed, PromiseTest::fete, PromiseTest::fault,
             PromiseTest::guesser, PromiseTest::sight, PromiseTest::weight, PromiseTest::jar, PromiseTest::write,
@@ -25,59 +13,18 @@ public final class PromiseTest {
             PromiseTest::buys, PromiseTest::game, PromiseTest::alone, PromiseTest::fewest, PromiseTest::fetes,
             PromiseTest::holds, PromiseTest::layersFor, PromiseTest::numbers, PromiseTest::put, PromiseTest::copy,
             PromiseTest::image, PromiseTest::restore, PromiseTest::count};
-        for (Runnable one : promises) {
-            promise++;
+        for (int i = 0; i < promises.length; i++) {
+            promise(i + 1);
             try {
-                one.run();
+                promises[i].run();
             } catch (RuntimeException e) {
-                wrong++;
-                System.out.println("promise " + promise + ": a call threw " + e);
+                fail("a call threw " + e);
             }
         }
-        System.out.println(wrong == 0 ? promise + " promises are kept" : wrong + " answers are not as due");
+        System.out.println(wrong == 0 ? promises.length + " promises are kept" : wrong + " answers are not as due");
         if (wrong != 0) {
             System.exit(1);
         }
-    }
-
-    private static void feedText(JarGuess x, String text) {
-        for (int i = 0; i < text.length(); i += 20) {
-            int[] a = new int[5];
-            for (int j = 0; j < 20; j++) {
-                a[j / 4] = a[j / 4] << 8 | (i + j < text.length() ? text.charAt(i + j) & 255 : 32);
-            }
-            x.feed(a[0], a[1], a[2], a[3], a[4]);
-        }
-    }
-
-    private static int tell(JarGuess x, String text) {
-        feedText(x, text);
-        return x.fete(text.length());
-    }
-
-    private static JarGuess told(String text) {
-        JarGuess x = new JarGuess();
-        if (tell(x, text) < 0) {
-            due("the test's own text " + text, x.fault(1), -1);
-        }
-        return x;
-    }
-
-    private static JarGuess written(String text, int... numbers) {
-        JarGuess x = told(text);
-        for (int v : numbers) {
-            x.write(0, v);
-        }
-        return x;
-    }
-
-    /** The hall's fete with 5, 6 and 5 on the list, the middle one of the second guesser. */
-    private static JarGuess hall() {
-        JarGuess x = told(HALL);
-        x.write(0, 5);
-        x.write(1, 6);
-        x.write(0, 5);
-        return x;
     }
 
     private static void newObject() {
@@ -332,13 +279,6 @@ public final class PromiseTest {
         due("not told", x.list(0, 3), -1);
         due("no goals", written("hidden;guesser 1 1;", 5, 6).list(1, 2), -1);
         due("a goal of 0", written("guesser 1 1;", 0, 6).list(1, 2), 0);
-    }
-
-    private static void row(JarGuess x, int row, int sort, long... values) {
-        x.numbers(row, sort, values.length);
-        for (int i = 0; i < values.length; i++) {
-            x.put(row, i, values[i]);
-        }
     }
 
     private static void judged(String call, JarGuess x, int row, int place, int why, int mean) {
@@ -1011,7 +951,7 @@ public final class PromiseTest {
         }
     }
 
-    private static int[] look(JarGuess x) {
+    private static int[] glance(JarGuess x) {
         int[] seen = new int[60];
         int at = 0;
         for (int what = 0; what <= 11; what++) {
@@ -1036,19 +976,19 @@ public final class PromiseTest {
         JarGuess x = hall();
         due("2", x.image(2), -2);
         due("-1", x.image(-1), -2);
-        int[] first = look(x);
+        int[] first = glance(x);
         due("0", x.image(0), 0);
         x.strike(3);
         x.write(1, 9);
         x.jar(9);
         due("it stays apart", x.restore(0), 0);
-        due("as it was", Arrays.equals(look(x), first) ? 1 : 0, 1);
+        due("as it was", Arrays.equals(glance(x), first) ? 1 : 0, 1);
         x.strike(2);
-        int[] second = look(x);
+        int[] second = glance(x);
         due("in its place", x.image(0), 0);
         x.fete(0);
         x.restore(0);
-        due("the later one", Arrays.equals(look(x), second) ? 1 : 0, 1);
+        due("the later one", Arrays.equals(glance(x), second) ? 1 : 0, 1);
     }
 
     private static void restore() {
@@ -1057,22 +997,22 @@ public final class PromiseTest {
         due("-1", x.restore(-1), -2);
         due("none", x.restore(1), -5);
         x.jar(8);
-        int[] first = look(x);
+        int[] first = glance(x);
         x.image(1);
         due("none of the other", x.restore(0), -5);
         tell(x, "hidden;guesser 7 7 copy 7;guesser 1 1;guesser 2 2;grid 5 50;prior 9 1;jar 3;price 1;prize 2;");
         x.write(2, 44);
-        int[] second = look(x);
+        int[] second = glance(x);
         x.image(0);
         tell(x, "jar 0;");
         x.feed(0x20202020, 0x20202020, 0x20202020, 0x20202020, 0x20202020);
         x.numbers(0, 0, 1);
         due("1", x.restore(1), 0);
-        due("as it was", Arrays.equals(look(x), first) ? 1 : 0, 1);
+        due("as it was", Arrays.equals(glance(x), first) ? 1 : 0, 1);
         due("0", x.restore(0), 0);
-        due("as it was then", Arrays.equals(look(x), second) ? 1 : 0, 1);
+        due("as it was then", Arrays.equals(glance(x), second) ? 1 : 0, 1);
         due("1 again", x.restore(1), 0);
-        due("as at first", Arrays.equals(look(x), first) ? 1 : 0, 1);
+        due("as at first", Arrays.equals(glance(x), first) ? 1 : 0, 1);
         due("the tape stays", x.count(8), 20);
         due("the fault stays", x.fault(0), 3);
         due("the row stays", x.put(0, 0, 1), 1);
