@@ -1,4 +1,5 @@
 import java.io.IOException;
+import java.lang.reflect.Array;
 import java.lang.reflect.Constructor;
 import java.lang.reflect.Field;
 import java.lang.reflect.Method;
@@ -7,6 +8,8 @@ import java.nio.charset.StandardCharsets;
 import java.nio.file.Files;
 import java.nio.file.Path;
 import java.util.Arrays;
+import java.util.Collections;
+import java.util.IdentityHashMap;
 import java.util.Set;
 import java.util.TreeSet;
 import java.util.regex.Matcher;
@@ -34,9 +37,10 @@ public final class LanguageTest {
         System.out.println(what);
     }
 
-    public static void main(String[] args) throws IOException {
+    public static void main(String[] args) throws IOException, IllegalAccessException {
         face();
         nested();
+        room();
         String source = Files.readString(Path.of("src/main/java/JarGuess.java"), StandardCharsets.ISO_8859_1);
         String code = source.replaceAll("(?s)/\\*.*?\\*/", "").replaceAll("//[^\n]*", "")
                 .replaceAll("\"[^\"\n]*\"", "\"\"").replaceAll("'[^'\n]+'", "' '");
@@ -120,6 +124,50 @@ public final class LanguageTest {
                 }
             }
         }
+    }
+
+    /** All calls of a run live in one room: an object is small, and no call makes it grow. */
+    private static void room() throws IllegalAccessException {
+        JarGuess x = new JarGuess();
+        Set<Object> held = Collections.newSetFromMap(new IdentityHashMap<>());
+        int size = hold(x, held);
+        int objects = held.size();
+        if (objects > 60 || size > 4000) {
+            fail("an object holds " + objects + " objects of " + size + " fields and elements");
+        }
+        x.feed(0x67756573, 0x73657220, 0x39302032, 0x3b6a6172, 0x20373b20);
+        x.fete(20);
+        x.come(1, 40);
+        x.bestTwo(4, 0);
+        x.behind(4, 0);
+        x.fetes(1, 40, 30, true, 0);
+        x.numbers(0, 3, 40);
+        x.image(1);
+        held.clear();
+        if (hold(x, held) != size || held.size() != objects) {
+            fail("an object grew by its calls");
+        }
+    }
+
+    private static int hold(Object one, Set<Object> held) throws IllegalAccessException {
+        if (one == null || one instanceof String || one instanceof Number || one instanceof Boolean || !held.add(one)) {
+            return 0;
+        }
+        if (one.getClass().isArray()) {
+            int size = Array.getLength(one);
+            for (int i = 0; i < Array.getLength(one) && !one.getClass().getComponentType().isPrimitive(); i++) {
+                size += hold(Array.get(one, i), held);
+            }
+            return size;
+        }
+        int size = 0;
+        for (Field field : one.getClass().getDeclaredFields()) {
+            if (!Modifier.isStatic(field.getModifiers())) {
+                field.setAccessible(true);
+                size += 1 + (field.getType().isPrimitive() ? 0 : hold(field.get(one), held));
+            }
+        }
+        return size;
     }
 
     /** By the indents that the source keeps to: a method ends with a brace below its own begin. */
