@@ -11,8 +11,6 @@ import java.util.List;
 import java.util.Map;
 import java.util.regex.Matcher;
 import java.util.regex.Pattern;
-import javax.tools.JavaCompiler;
-import javax.tools.ToolProvider;
 
 /** Whether README.md says what the class answers, and of each call what the document says. */
 public final class ReadmeTest {
@@ -36,7 +34,7 @@ public final class ReadmeTest {
         }
     }
 
-    public static void main(String[] args) throws IOException, ReflectiveOperationException {
+    public static void main(String[] args) throws IOException, InterruptedException, ReflectiveOperationException {
         String page = Files.readString(Path.of("README.md"), StandardCharsets.UTF_8);
         String document = Files.readString(Path.of("../shared/DOC.md"), StandardCharsets.UTF_8);
         runExamples(page);
@@ -54,7 +52,7 @@ public final class ReadmeTest {
 
     // ---- the examples
 
-    private static void runExamples(String page) throws IOException, ReflectiveOperationException {
+    private static void runExamples(String page) throws IOException, InterruptedException, ReflectiveOperationException {
         StringBuilder members = new StringBuilder();
         StringBuilder steps = new StringBuilder();
         for (Matcher block = BLOCK.matcher(page); block.find(); ) {
@@ -83,15 +81,13 @@ public final class ReadmeTest {
         return line;
     }
 
-    private static void run(String source) throws IOException, ReflectiveOperationException {
-        JavaCompiler compiler = ToolProvider.getSystemJavaCompiler();
+    private static void run(String source) throws IOException, InterruptedException, ReflectiveOperationException {
         Path made = Files.createTempDirectory("readme");
         Path file = made.resolve("ReadmeExample.java");
         Path compiled = made.resolve("ReadmeExample.class");
         try {
             Files.writeString(file, source);
-            String classes = System.getProperty("java.class.path");
-            if (compiler.run(null, null, null, "-cp", classes, "-d", made.toString(), file.toString()) != 0) {
+            if (!compiles(file, made)) {
                 fail("the Java of README.md does not compile");
                 return;
             }
@@ -105,6 +101,12 @@ public final class ReadmeTest {
             Files.deleteIfExists(file);
             Files.deleteIfExists(made);
         }
+    }
+
+    private static boolean compiles(Path file, Path into) throws IOException, InterruptedException {
+        String classes = System.getProperty("java.class.path");
+        return new ProcessBuilder("javac", "-encoding", "UTF-8", "-cp", classes, "-d", into.toString(), file.toString())
+                .inheritIO().start().waitFor() == 0;
     }
 
     // ---- the tables of calls
